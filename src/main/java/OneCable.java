@@ -1002,11 +1002,12 @@ public final class OneCable {
         }
 
         int swell(int x, int y, int hour) {
-            int at = hour % DAY * CELLS + y * SIDE + x;
+            int ofDay = Math.floorMod(hour, DAY);
+            int at = ofDay * CELLS + y * SIDE + x;
             if (known[at] == UNKNOWN) {
                 facts[Law.X] = x;
                 facts[Law.Y] = y;
-                facts[Law.HOUR] = hour % DAY;
+                facts[Law.HOUR] = ofDay;
                 known[at] = within(bay.swellLaw.value(facts));
             }
             return known[at];
@@ -1072,7 +1073,7 @@ public final class OneCable {
             for (int b = from; b <= to; b++) {
                 slow = slow || bay.kind[b] == SLOW;
             }
-            return slow && hour % 2 == 1;
+            return slow && (hour & 1) == 1;
         }
 
         void sail() {
@@ -1400,7 +1401,7 @@ public final class OneCable {
             facts[Law.FAR] = Math.abs(x - bay.homeX[boat]) + Math.abs(y - bay.homeY[boat]);
             facts[Law.X] = x;
             facts[Law.Y] = y;
-            facts[Law.HOUR] = now.hour % DAY;
+            facts[Law.HOUR] = Math.floorMod(now.hour, DAY);
             return within(bay.wishLaw.value(facts));
         }
 

@@ -5,15 +5,33 @@ final class Check {
     private static final int SHOWN = 30;
     private int wrong;
     private int asked;
+    private Document document;
+    private String sentence = "";
 
     void due(String what, long got, long want) {
         asked++;
         if (got != want) {
             wrong++;
             if (wrong <= SHOWN) {
-                System.out.println(what + " answered " + got + ", due is " + want);
+                System.out.println(sentence + what + " answered " + got + ", due is " + want);
             }
         }
+    }
+
+    /** The sentence of the document that the next answers are due by; it must stand there. */
+    void says(String words) {
+        if (document == null) {
+            document = Document.read();
+        }
+        sentence = "\"" + words + "\"\n    ";
+        due("stands in the document", document.quote(words), true);
+    }
+
+    /** No sentence may be without a test. */
+    void allSaid() {
+        sentence = "";
+        String unquoted = document == null ? "all" : document.unquoted();
+        due("no test quotes: " + unquoted, unquoted.isEmpty(), true);
     }
 
     void due(String what, boolean got, boolean want) {
