@@ -97,6 +97,7 @@ final class BayEdges extends Edges {
         fault(BAY + plain("a", 1, 1) + "rock 1 ^1 ;", 3);
         fault(BAY + plain("a", 0, 0) + plain("b", 1, 1) + "rock 1 ^1 ;", 3);
         good(BAY + "rock 1 1 ; shoal 0 1 fish 1 ;" + plain("a", 1, 0) + "rock 1 2 ; rock 2 1 ;");
+        fault(BAY + plain("a", 2, 1) + "rock 1 2 ; rock 2 2 ; rock 1 1 ; rock 2 ^1 ;", 3);
     }
 
     private void shoals() {
@@ -124,8 +125,13 @@ final class BayEdges extends Edges {
         for (int kind = 0; kind < kinds.length; kind++) {
             due(kinds[kind], Check.told(BAY + boat("a", kinds[kind], 0, 0, 0, 0, 0)).boat(0, 0), kind);
         }
-        for (String kind : new String[] {"olds", "ol", "x", "at", "rock", "a", "5"}) {
+        for (String kind : new String[] {"olds", "ol", "x", "far", "hour", "a", "5", "(", ";"}) {
             fault(BAY + "boat a ^" + kind + " at 0 0 hold 0 pull 0 trust 0 ;", 1);
+        }
+        for (int word = 0; word < RESERVED.length; word++) {
+            boolean isKind = word >= 15 && word < 20;
+            String text = BAY + "boat a " + RESERVED[word] + " at 0 0 hold 0 pull 0 trust 0 ;";
+            due(text, Check.tell(new OneCable(), text), isKind ? 0 : 1 + 16 * (BAY.length() + 7));
         }
         says("hold 0 to 99, pull 0 to 99, trust 0 to 9.");
         String a = BAY + "boat a old at 0 0 hold ";

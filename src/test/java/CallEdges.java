@@ -109,7 +109,8 @@ final class CallEdges extends Edges {
         due("no rock", c.cell(5, 5, 2) + c.cell(6, 4, 2), 0);
         due("boat 0", c.cell(1, 1, 3), 1);
         due("boat 2", c.cell(3, 3, 3), 4);
-        due("no boats", c.cell(0, 0, 3), 0);
+        due("boat 1", c.cell(3, 1, 3), 2);
+        due("no boats", c.cell(0, 0, 3) + c.cell(1, 3, 3) + c.cell(2, 1, 3) + c.cell(3, 2, 3), 0);
         for (int what = 0; what < 4; what++) {
             int asked = what;
             due("the corner", c.cell(6, 5, what) >= 0, true);
@@ -314,6 +315,18 @@ final class CallEdges extends Edges {
         c.mark(0, true);
         same("what was laid last", print(c), later);
         due("a mark of an object without boats", new OneCable().mark(3, false), true);
+        OneCable links = Check.told(THREE);
+        links.mark(0, false);
+        links.hours(1);
+        links.mark(1, false);
+        due("torn", links.link(1, 2), 1);
+        links.mark(0, true);
+        due("whole on the first mark", links.link(1, 2) * 10 + links.count(4), 1);
+        links.mark(1, true);
+        due("torn on the second", links.link(1, 2) * 10 + links.count(4), 12);
+        links.mend(1);
+        links.mark(1, true);
+        due("what was mended behind it is torn", links.link(1, 2), 1);
     }
 
     private void counts() {

@@ -138,6 +138,11 @@ final class CouncilEdges extends Edges {
         due("north and east are the best", council(split, 4, 5).chosen(true), 0);
         due("a best without trust is one, too", council(split, 0, 1).chosen(true), 0);
         due("the best of one without trust is barred", council("( room = 10 ) * x + ( room = 11 ) * y", 1, 0).chosen(true), 0);
+        OneCable gone = Check.told("bay 3 3 ;" + plain("a", 1, 1) + " wish ( x = 2 ) * ( hour = 0 ) * 99 ;");
+        due("east is the best in hour 0", gone.chosen(true), 0);
+        gone.order(0, 2);
+        gone.hours(1);
+        due("but can't be from there: to stay is the best", gone.chosen(true), 1);
         OneCable tie = council("( y = 2 ) * 9 + ( x = 2 ) * 9", 3);
         due("of equal ones the least is the best, the other one is nobody's", tie.chosen(true), 2);
         OneCable held = Check.told("bay 3 3 ; rock 2 1 ;" + plain("a", 1, 1) + " wish x * 10 + ( x = 1 ) * ( y = 2 ) ;");

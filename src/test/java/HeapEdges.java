@@ -125,6 +125,10 @@ final class HeapEdges extends Edges {
         c.share(2, 5);
         due("by one less some run does", c.leaves(), 2);
         due("shares by hand do not change it", c.fair(2), 6);
+        OneCable less = Check.told("bay 2 2 ; shoal 0 0 fish 3 ;" + plain("a", 0, 0));
+        due("of now", less.fair(0), 3);
+        less.hours(1);
+        due("of one fish", less.fair(0), 1);
     }
 
     private void given() {

@@ -41,7 +41,7 @@ final class HourEdges extends Edges {
         due("oar below", forceOf("oar", 6, "10"), 0);
         due("oar without pull", forceOf("oar", 0, "99"), 94);
         due("oar with 99", forceOf("oar", 99, "99"), 0);
-        due("at its cell: x 1, y 1", forceOf("plain", 0, "x * 10 + y * 20"), 30);
+        due("at its cell: x 5, y 2", Check.told("bay 8 8 ;" + plain("a", 5, 2) + " swell x * 10 + y ;").boat(0, 5), 52);
     }
 
     private void parts() {
@@ -105,6 +105,11 @@ final class HourEdges extends Edges {
         due("the second from its first one: 3 * 9 - 2 * 9", c.link(2, 3), 9);
         due("torn before it", c.link(0, 3), -1);
         due("torn behind it", c.link(3, 3), -1);
+        OneCable d = Check.told("bay 8 8 ;" + plain("a", 0, 1) + plain("b", 0, 3) + plain("c", 7, 2) + plain("d", 7, 3)
+            + " swell x + y * 10 ;");
+        due("by x and y: 10 and 30", d.link(0, 3), 20);
+        due("behind another part, 27 and 37", d.link(2, 3), 10);
+        due("the first part again", d.link(0, 3), 20);
     }
 
     private void tears() {
@@ -126,6 +131,14 @@ final class HourEdges extends Edges {
         three = row(3, 6, 0, 0);
         three.hours(1);
         due("12 on three times 3, but 6 is less", three.link(0, 2) * 10 + three.link(1, 2), 10);
+        for (int strong = 0; strong <= 3; strong++) {
+            OneCable last = Check.told("bay 8 2 ;" + boat("a", "plain", 0, 0, 0, 0, 0) + boat("b", "plain", 0, 0, 0, 0, 0)
+                + boat("c", "plain", 7, 0, 0, 94, 0) + boat("d", "plain", 7, 0, 0, 99, 0) + " cable 1 strong 0 ;"
+                + " cable 1 strong 0 ; cable 1 strong " + strong + " ; swell 99 ;");
+            last.hours(1);
+            due("5 on two times " + strong + " in the last part", last.link(2, 2), strong < 3 ? 1 : 0);
+            due("0 on 0 in the first part", last.link(0, 2), 0);
+        }
         OneCable seven = row(84, 99, 0, 0, 0, 0, 0, 0);
         seven.hours(1);
         due("594 on seven times 84, 588", seven.count(4), 2);

@@ -129,6 +129,13 @@ final class LawEdges extends Edges {
             due("x", swell("x", cell % 8, cell / 8), cell % 8);
             due("y", swell("y", cell % 8, cell / 8), cell / 8);
         }
+        OneCable all = Check.told("bay 8 8 ; swell x + y * 10 + hour ;");
+        for (int hour = 0; hour < 2; hour++) {
+            for (int cell = 0; cell < 64; cell++) {
+                due("x and y", all.cell(cell % 8, cell / 8, 1), cell % 8 + cell / 8 * 10 + hour);
+            }
+            all.hours(1);
+        }
         OneCable c = Check.told("bay 2 2 ; swell hour ;");
         for (int hour = 0; hour < 75; hour++) {
             due("hour " + hour, c.cell(0, 0, 1), hour % 24);
@@ -177,6 +184,16 @@ final class LawEdges extends Edges {
         c.hours(23);
         due("far 3 in the corner, hour 24 is 0", c.wish(0, 2), 30);
         due("nearer to home", c.wish(0, 4), 10);
+        OneCable home = Check.told("bay 8 8 ;" + plain("a", 5, 2) + " wish far ;");
+        int[] ways = {2, 2, 3, 4, 4, 1, 1};
+        for (int way : ways) {
+            home.order(0, way);
+            home.hours(1);
+        }
+        due("one to the north of home", home.wish(0, 0), 1);
+        due("there", at(home, 0), 53);
+        due("home is to the south", home.wish(0, 3), 0);
+        due("to the east 2", home.wish(0, 2), 2);
         due("rough 0 below it", roughOf("0 - 5"), 0);
         due("room 0", roomFull(), 0);
     }

@@ -16,6 +16,7 @@ final class SoonEdges extends Edges {
         waiting();
         tearing();
         firstRow();
+        onTheWay();
         asByOrders();
         nothingDone();
     }
@@ -170,6 +171,28 @@ final class SoonEdges extends Edges {
         row(wait, 0, 3, 0, 0, 2, 2);
     }
 
+    /** At x 0 it can't stay, so what it does later does not begin there. */
+    private void onTheWay() {
+        says("SOON: HOURS go by from now on, in each the PART stays or goes one CELL as by ORDERS (0 to 4, those by which"
+            + " it can), and no LINK of it may TEAR in it:");
+        OneCable c = Check.told("bay 3 2 ; shoal 2 0 fish 3 ;" + FRAIL + " swell ( x = 0 ) + ( x = 2 ) * ( hour < 3 ) ;");
+        row(c, 0, 3, 2, 0, 0, 2);
+        OneCable d = Check.told("bay 4 2 ; shoal 3 0 fish 3 ;" + FRAIL
+            + " swell ( x = 0 ) + ( x = 1 ) * ( 0 < hour ) + ( x = 2 ) * ( hour < 2 ) ;");
+        never(d, 0, 3);
+        OneCable e = Check.told("bay 8 8 ; shoal 7 0 fish 3 ; rock 5 0 ; rock 5 1 ; rock 5 2 ;" + plain("a", 0, 0));
+        row(e, 0, 3, 1, 1, 1, 2, 2, 2, 2, 2, 2, 2, 3, 3, 3);
+        Check.tell(e, "bay 8 8 ; shoal 7 0 fish 3 ;" + plain("a", 0, 0));
+        row(e, 0, 3, 2, 2, 2, 2, 2, 2, 2);
+        Check.tell(e, "bay 8 8 ; shoal 7 0 fish 3 ; rock 1 0 ; rock 0 1 ;" + plain("a", 0, 0));
+        never(e, 0, 3);
+        Check.tell(e, "bay 7 8 ; shoal 6 0 fish 3 ;" + plain("a", 0, 0) + plain("b", 0, 1));
+        row(e, 0, 3, 2, 2, 2, 2, 2, 2);
+        OneCable f = Check.told("bay 2 4 ; shoal 0 3 fish 3 ;" + boat("a", "plain", 0, 0, 9, 0, 0)
+            + boat("b", "plain", 1, 0, 0, 99, 0) + " cable 1 strong 0 ; swell y = 2 ;");
+        never(f, 0, 3);
+    }
+
     private void asByOrders() {
         says("in each the PART stays or goes one CELL as by ORDERS (0 to 4, those by which it can),");
         OneCable c = Check.told("bay 4 3 ; shoal 3 0 fish 1 ; rock 2 1 ;" + plain("a", 0, 0) + plain("b", 0, 1));
@@ -182,6 +205,9 @@ final class SoonEdges extends Edges {
         row(f, 0, 3, 2, 2);
         OneCable slow = Check.told("bay 4 2 ; shoal 3 0 fish 3 ;" + plain("a", 0, 0) + boat("b", "slow", 0, 0, 0, 0, 0));
         row(slow, 0, 3, 2, 0, 2, 0, 2);
+        OneCable first = Check.told("bay 4 2 ; shoal 3 0 fish 3 ;" + boat("a", "slow", 0, 0, 0, 0, 0) + plain("b", 0, 0)
+            + plain("c", 0, 1));
+        row(first, 2, 3, 2, 0, 2, 0, 2);
         OneCable parts = Check.told("bay 8 2 ; shoal 2 0 fish 3 ;" + plain("a", 0, 0) + boat("b", "slow", 7, 0, 9, 0, 0));
         row(parts, 0, 3, 2, 2);
         row(parts, 1, 3, 4, 0, 4, 0, 4, 0, 4, 0, 4);

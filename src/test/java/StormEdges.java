@@ -82,6 +82,9 @@ final class StormEdges extends Edges {
         OneCable kind = Check.told("bay 8 2 ;" + boat("a", "plain", 0, 0, 0, 0, 0) + boat("b", "oar", 1, 0, 0, 0, 0)
             + " cable 1 strong 0 ; swell ( x = 0 ) * 5 ;");
         order(kind, 0, 1, 0);
+        OneCable cells = Check.told("bay 8 8 ;" + boat("a", "plain", 5, 2, 0, 10, 0) + boat("b", "plain", 6, 1, 0, 20, 0)
+            + boat("c", "plain", 5, 3, 0, 0, 0) + " cable 9 strong 0 ; cable 9 strong 0 ; swell x + y * 10 ;");
+        order(cells, 1, 0, 2, 1);
         OneCable hour = row("hour * ( 1 - x )", 0, 0, 1);
         order(hour, 0, 0, 1);
         hour.hours(1);
@@ -140,6 +143,10 @@ final class StormEdges extends Edges {
         hour.hours(1);
         due("in hour 1", hour.join(1, 0, 0), 2);
         due("in hour 1, farther east", hour.join(2, 0, 0), 4);
+        OneCable north = Check.told("bay 3 8 ;" + plain("a", 0, 1) + plain("b", 1, 1) + " swell x + y * 10 ;");
+        due("10, 11 and 51: 102 - 21 of 3", north.join(1, 5, 0), 27);
+        OneCable last = Check.told("bay 8 3 ;" + plain("a", 0, 0) + plain("b", 7, 0) + plain("c", 7, 1) + " swell x + y * 10 ;");
+        due("7, 17 and 20 of the last part: 40 - 24 of 3", last.join(0, 2, 0), 6);
     }
 
     private static int tearsWith(int strong, int pull) {
@@ -255,6 +262,15 @@ final class StormEdges extends Edges {
         many.hours(1);
         due("all torn", many.count(4), 7);
         due("none left to tear", many.seasons(0, 99, 0), 0);
+        OneCable north = Check.told("bay 8 8 ;" + plain("a", 0, 0) + plain("b", 0, 0) + plain("c", 7, 2) + plain("d", 7, 3)
+            + " cable 1 strong 0 ; cable 1 strong 0 ; cable 1 strong 5 ; gales 0 ; swell y * y * 2 ;");
+        due("10 of 5 by two in the last part", north.seasons(1, 9, 0), 0);
+        Check.tell(north, "bay 8 8 ;" + plain("a", 0, 0) + plain("b", 0, 0) + plain("c", 7, 2) + plain("d", 7, 3)
+            + " cable 1 strong 0 ; cable 1 strong 0 ; cable 1 strong 4 ; gales 0 ; swell y * y * 2 ;");
+        due("10 of 4 by two", north.seasons(1, 9, 0), 9);
+        OneCable whole = Check.told("bay 8 2 ;" + plain("a", 0, 0) + plain("b", 1, 0) + plain("c", 2, 0)
+            + " cable 1 strong 3 ; cable 1 strong 3 ; gales 0 ; swell 9 * ( x = 1 ) ;");
+        due("9 of 3 by three, though not by two", whole.seasons(1, 99, 0), 0);
         OneCable goes = Check.told("bay 4 2 ;" + plain("a", 0, 0) + plain("b", 1, 0)
             + " cable 1 strong 4 ; gales 0 ; swell ( x = 2 ) * ( hour = 9 ) * 9 ;");
         due("where they are: calm", goes.seasons(3, 9, 0), 0);
@@ -280,6 +296,13 @@ final class StormEdges extends Edges {
         due("added to the swell, which is 0 at least", deep.seasons(1, 99, 1), above(drawn(1, 50, 99), 0));
         OneCable oar = Check.told("bay 2 2 ;" + boat("a", "oar", 0, 0, 0, 3, 0) + " swell 0 ; gales 50 ; loose 2 ;");
         due("an oar one's pull is 8", oar.seasons(1, 99, 1), above(drawn(1, 50, 99), 10));
+        OneCable where = Check.told("bay 8 8 ;" + plain("a", 5, 2) + plain("b", 3, 4) + " swell x + y * 10 ; gales 0 ;"
+            + " loose 24 ;");
+        due("25 and 43, both above 24", where.seasons(1, 1, 1), 2);
+        Check.tell(where, "bay 8 8 ;" + plain("a", 5, 2) + plain("b", 3, 4) + " swell x + y * 10 ; gales 0 ; loose 25 ;");
+        due("one of them above 25", where.seasons(1, 1, 1), 1);
+        Check.tell(where, "bay 8 8 ;" + plain("a", 5, 2) + plain("b", 3, 4) + " swell x + y * 10 ; gales 0 ; loose 43 ;");
+        due("none above 43", where.seasons(1, 1, 1), 0);
         OneCable none = Check.told("bay 2 2 ;" + boats(1) + " swell 99 ; gales 50 ; loose 99 ;");
         due("none is above 99", none.seasons(1, 99, 1), 0);
         OneCable later = Check.told("bay 2 2 ;" + boats(2) + " swell hour ; gales 9 ; loose 27 ;");
