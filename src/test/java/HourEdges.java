@@ -106,10 +106,10 @@ final class HourEdges extends Edges {
         due("torn before it", c.link(0, 3), -1);
         due("torn behind it", c.link(3, 3), -1);
         OneCable d = Check.told("bay 8 8 ;" + plain("a", 0, 1) + plain("b", 0, 3) + plain("c", 7, 2) + plain("d", 7, 3)
-            + " swell x + y * 10 ;");
-        due("by x and y: 10 and 30", d.link(0, 3), 20);
-        due("behind another part, 27 and 37", d.link(2, 3), 10);
-        due("the first part again", d.link(0, 3), 20);
+            + " swell x * x + y * y ;");
+        due("by x and y: 1 and 9", d.link(0, 3), 8);
+        due("behind another part, 53 and 58", d.link(2, 3), 5);
+        due("the first part again", d.link(0, 3), 8);
     }
 
     private void tears() {
