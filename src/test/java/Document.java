@@ -1,13 +1,16 @@
 import java.io.IOException;
 import java.nio.file.Files;
 import java.nio.file.Path;
+import java.util.ArrayList;
+import java.util.List;
 import java.util.regex.Matcher;
 import java.util.regex.Pattern;
 
 /** The document's words, and which of them a test has quoted. */
 final class Document {
     private static final Path PLACE = Path.of("../shared/DOC.md");
-    private static final Pattern PROMISE = Pattern.compile("## Promise \\d+: [\\w ]+ `[^`]*`:");
+    private static final Pattern HEADING = Pattern.compile(
+        "## Promise \\d+: [\\w ]+ `[^`]*`:|## (What it is|Terms|Not promised)|# OneCable");
 
     private final String text;
     private final StringBuilder left;
@@ -30,7 +33,7 @@ final class Document {
     }
 
     private static String plain(String text) {
-        return text.replace("```text", " ").replace("```", " ").replaceAll("\\s+", " ");
+        return text.replaceAll("(?s)```text(.*?)```", " $1 ").replaceAll("\\s+", " ");
     }
 
     /** Whether the sentence stands there word for word; it counts as tested from then on. */
@@ -47,15 +50,23 @@ final class Document {
         return found;
     }
 
-    /** What no test has quoted of the terms and promises, but for headings and stops between sentences. */
+    /** What no test has quoted, but for headings, the public face in Java and stops between sentences. */
     String unquoted() {
-        int begin = text.indexOf("## Terms");
-        int end = text.indexOf("## Not promised");
-        if (begin < 0 || end < begin) {
-            return "the sections Terms and Not promised";
-        }
-        String rest = left.substring(begin, end).replace("## Terms", "");
-        Matcher heading = PROMISE.matcher(rest);
+        String rest = left.toString().replaceFirst("## The public face ```java.*?``` ", "");
+        Matcher heading = HEADING.matcher(rest);
         return heading.replaceAll("").replaceAll("==== \\d\\.", "").replaceAll("[#.,:;\\s]+", " ").trim();
+    }
+
+    /** The lines of the public face, as the document writes them; none where it has no such block. */
+    List<String> face() {
+        List<String> lines = new ArrayList<>();
+        Matcher block = Pattern.compile("```java(.*?)```").matcher(text);
+        if (block.find()) {
+            Matcher line = Pattern.compile("public [^;{]*;").matcher(block.group(1));
+            while (line.find()) {
+                lines.add(line.group());
+            }
+        }
+        return lines;
     }
 }

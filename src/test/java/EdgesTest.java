@@ -4,7 +4,7 @@ public final class EdgesTest {
         Check check = new Check();
         Edges[] all = {new TapeEdges(check), new BayEdges(check), new LawEdges(check), new HourEdges(check),
             new CallEdges(check), new SoonEdges(check), new CouncilEdges(check), new HeapEdges(check),
-            new StormEdges(check)};
+            new StormEdges(check), new WholeEdges(check)};
         for (Edges edges : all) {
             edges.run();
         }

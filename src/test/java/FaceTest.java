@@ -26,6 +26,7 @@ public final class FaceTest {
             }
         }
         check.due("methods " + seen + " for " + due, seen.equals(due), true);
+        asWritten(check);
         check.due("the class", OneCable.class.getModifiers(), Modifier.PUBLIC | Modifier.FINAL);
         check.due("it extends nothing", OneCable.class.getSuperclass() == Object.class, true);
         check.due("it implements nothing", OneCable.class.getInterfaces().length, 0);
@@ -48,6 +49,24 @@ public final class FaceTest {
             head.append(" throws ").append(thrown.getName());
         }
         return head.toString();
+    }
+
+    /** The document's own lines name the same face: one constant, one constructor, and the methods above. */
+    private static void asWritten(Check check) {
+        Document document = Document.read();
+        if (document == null) {
+            return;
+        }
+        Set<String> written = new TreeSet<>();
+        for (String line : document.face()) {
+            String names = line.replaceAll("^public |;$", "").replaceAll("(\\w+) \\w+(?=[,)])", "$1");
+            written.add(names.replace("NoSuchElement", "java.util.NoSuchElement"));
+        }
+        Set<String> due = new TreeSet<>(Arrays.asList(FACE));
+        due.add("static final int NONE = -1");
+        due.add("OneCable()");
+        check.due("the document has " + written + " for " + due, written.equals(due), true);
+        check.due("NONE", OneCable.NONE, -1);
     }
 
     private static void fields(Check check) {

@@ -9,6 +9,9 @@ public final class PlainTest {
         + "gales loose plain slow oar old keen not and or x y hour rough room far ann bob cat ( ) < = + - * ; "
         + "0 1 2 7 9 50 51 99 100 9999 12345 abcdefgh abcdefghi . 3x x3").split(" ");
 
+    private static final int[] FAR_OFF = {Integer.MIN_VALUE, Integer.MIN_VALUE + 7, -65536, -256, -8, 32, 256, 65536,
+        1 << 30, Integer.MAX_VALUE - 7, Integer.MAX_VALUE};
+
     private final Random random;
     private final Check check;
     private final OneCable cable = new OneCable();
@@ -51,6 +54,11 @@ public final class PlainTest {
         return least + random.nextInt(most - least + 1);
     }
 
+    /** Now and then an argument that no call could mean. */
+    private int odd(int usual) {
+        return below(30) == 0 ? FAR_OFF[below(FAR_OFF.length)] : usual;
+    }
+
     private void same(String call, long got, long want) {
         log.append(call).append(" = ").append(want).append('\n');
         check.due(call, got, want);
@@ -66,30 +74,30 @@ public final class PlainTest {
 
     private void step() {
         int n = Math.max(1, plain.world.boats.size());
-        int b = below(20) == 0 ? from(-2, 8) : below(n);
+        int b = odd(below(20) == 0 ? from(-2, 8) : below(n));
         switch (below(26)) {
             case 0 -> same("order", cable.order(b, 1) ? 1 : 0, plain.order(b, 1) ? 1 : 0);
             case 1, 2, 3, 4 -> {
-                int way = from(-1, 5);
+                int way = odd(from(-1, 5));
                 same("order(" + b + ", " + way + ")", cable.order(b, way) ? 1 : 0, plain.order(b, way) ? 1 : 0);
             }
             case 5, 6, 7 -> same("hours(1)", cable.hours(1), plain.hours(1));
             case 8 -> {
-                int many = from(-1, 5);
+                int many = odd(from(-1, 5));
                 same("hours(" + many + ")", cable.hours(many), plain.hours(many));
             }
             case 9 -> {
-                int l = from(-1, 6);
+                int l = odd(from(-1, 6));
                 same("mend(" + l + ")", cable.mend(l) ? 1 : 0, plain.mend(l) ? 1 : 0);
             }
             case 10 -> {
-                int dx = from(-3, 3);
-                int dy = from(-3, 3);
+                int dx = odd(from(-3, 3));
+                int dy = odd(from(-3, 3));
                 same("grip(" + b + ", " + dx + ", " + dy + ")", cable.grip(b, dx, dy), plain.grip(b, dx, dy));
             }
             case 11 -> soon(b);
             case 12, 13 -> {
-                int way = from(-1, 5);
+                int way = odd(from(-1, 5));
                 same("wish(" + b + ", " + way + ")", cable.wish(b, way), plain.wish(b, way));
             }
             case 14 -> {
@@ -98,50 +106,68 @@ public final class PlainTest {
             }
             case 15 -> same("canGet(" + b + ")", cable.canGet(b), plain.canGet(b));
             case 16 -> {
-                int j = from(-1, 7);
+                int j = odd(from(-1, 7));
                 same("worth(" + b + ", " + j + ")", cable.worth(b, j), plain.worth(b, j));
             }
             case 17 -> {
-                int f = below(5) == 0 ? from(-2, 1001) : below(8);
+                int f = odd(below(5) == 0 ? from(-2, 1001) : below(8));
                 same("share(" + b + ", " + f + ")", cable.share(b, f) ? 1 : 0, plain.share(b, f) ? 1 : 0);
             }
             case 18 -> same("leaves()", cable.leaves(), plain.leaves());
             case 19 -> same("fair(" + b + ")", cable.fair(b), plain.fair(b));
             case 20 -> {
-                int what = below(12) == 0 ? from(-2, 7) : from(-1, n - 1);
+                int what = odd(below(12) == 0 ? from(-2, 7) : from(-1, n - 1));
                 if (n < 7 || below(8) == 0) {
                     same("storm(" + what + ")", Check.storm(cable, what), plain.storm(what));
                 }
             }
             case 21 -> {
-                int x = from(-1, 8);
-                int y = from(-1, 8);
-                int pull = from(-1, 100);
+                int x = odd(from(-1, 8));
+                int y = odd(from(-1, 8));
+                int pull = odd(from(-1, 100));
                 same("join(" + x + ", " + y + ", " + pull + ")", cable.join(x, y, pull), plain.join(x, y, pull));
             }
             case 22 -> {
-                int seed = from(-1, 10000);
-                int days = from(-1, 12);
-                int what = from(0, 1);
+                int seed = odd(from(-1, 10000));
+                int days = odd(from(-1, 12));
+                int what = odd(from(0, 1));
                 same("seasons(" + seed + ", " + days + ", " + what + ")",
                     cable.seasons(seed, days, what), plain.seasons(seed, days, what));
             }
             case 23 -> {
-                int m = from(-1, 4);
+                int m = odd(from(-1, 4));
                 boolean back = random.nextBoolean();
                 same("mark(" + m + ", " + back + ")", cable.mark(m, back) ? 1 : 0, plain.mark(m, back) ? 1 : 0);
             }
             case 24 -> {
                 if (below(6) == 0) {
+                    same("bay()", cable.bay(), plain.bay());
                     tell(below(2) == 0 ? text() : spoiled(text()));
+                } else {
+                    feed();
                 }
             }
             default -> look();
         }
     }
 
+    /** Bytes of all sorts, which may lie on the tape while other calls come and go. */
+    private void feed() {
+        StringBuilder signs = new StringBuilder();
+        long[] rows = new long[3];
+        for (int i = 0; i < 24; i++) {
+            int sign = below(3) == 0 ? below(256) : below(3) == 0 ? 32 : 10;
+            rows[i / 8] = rows[i / 8] << 8 | sign;
+            signs.append((char) sign);
+        }
+        same("feed", cable.feed(rows[0], rows[1], rows[2]), plain.feed(signs.toString()));
+        if (below(3) == 0) {
+            same("bay()", cable.bay(), plain.bay());
+        }
+    }
+
     private void soon(int b) {
-        int fish = below(10) == 0 ? from(-1, 1000) : below(14);
+        int fish = odd(below(10) == 0 ? from(-1, 1000) : below(14));
         int hours = plain.soon(b, fish, -1);
         same("soon(" + b + ", " + fish + ", -1)", cable.soon(b, fish, -1), hours);
         for (int i = 0; i < Math.min(3, hours + 1); i++) {
