@@ -404,6 +404,13 @@ final class HourEdges extends Edges {
         due("six cells between", sweeps(new int[] {0, 7}, new int[] {7, 7}, 99, 99,
             " shoal 1 7 fish 9 ; shoal 2 7 fish 9 ; shoal 3 7 fish 9 ; shoal 4 7 fish 9 ; shoal 5 7 fish 9 ; shoal 6 7 fish 9 ;"),
             1212);
+        for (int dx = -3; dx <= 3; dx++) {
+            for (int dy = -3; dy <= 3; dy++) {
+                int between = Math.max(0, Math.abs(dx + dy) - 1);
+                due("fish all around, " + dx + " " + dy, sweeps(new int[] {3, 3}, new int[] {3 + dx, 3 + dy}, 99, 99,
+                    fishAround(dx, dy)), dx != 0 && dy != 0 ? 0 : 202 * between);
+            }
+        }
         OneCable torn = Check.told("bay 8 2 ; shoal 2 0 fish 9 ;" + plain("a", 0, 0) + plain("b", 4, 0));
         torn.hours(1);
         due("a torn one", torn.count(6), 0);
@@ -411,6 +418,19 @@ final class HourEdges extends Edges {
             + boat("b", "keen", 2, 0, 99, 0, 0));
         old.hours(1);
         due("an old one has room for 1, a keen one sweeps but 2", old.boat(0, 3) * 10 + old.boat(1, 3), 12);
+    }
+
+    /** Shoals on the cells from 0 0 to 6 6, but for 3 3 and the one so far off from it. */
+    private static String fishAround(int dx, int dy) {
+        StringBuilder shoals = new StringBuilder();
+        for (int x = 0; x < 7; x++) {
+            for (int y = 0; y < 7; y++) {
+                if ((x != 3 || y != 3) && (x != 3 + dx || y != 3 + dy)) {
+                    shoals.append("shoal ").append(x).append(' ').append(y).append("fish 9;");
+                }
+            }
+        }
+        return shoals.toString();
     }
 
     private void behindIt() {

@@ -18,6 +18,7 @@ final class LawEdges extends Edges {
         facts();
         wishFacts();
         truth();
+        toldAnew();
         wraps();
         without();
         swellEdges();
@@ -226,8 +227,25 @@ final class LawEdges extends Edges {
         law("9 = 9", 1);
         law("0 = 0", 1);
         law("( 5 and 5 ) + ( 5 or 5 ) + ( 5 = 5 ) + ( 5 < 6 ) + not 0", 5);
+        law("10 + ( 0 or 0 )", 10);
+        law("10 + ( 0 and 5 )", 10);
+        law("10 + ( 6 < 5 )", 10);
+        law("10 + ( 5 = 6 )", 10);
+        law("10 + not 5", 10);
         law("0 - 1 < 0", 1);
         law("0 < 0 - 1", 0);
+    }
+
+    /** A law that was told before, and was longer, leaves nothing behind. */
+    private void toldAnew() {
+        says("Without a FAULT it is the BAY from then on:");
+        OneCable c = new OneCable();
+        for (String law : new String[] {"not 9", "7", "1 + not 2", "7 + 8", "x = 0 and not y", "3"}) {
+            due(law, Check.tell(c, "bay 2 2 ; swell " + law + " ; wish " + law + " ;" + plain("a", 0, 0)), 0);
+            int want = law.equals("not 9") ? 0 : law.equals("7") ? 7 : law.equals("7 + 8") ? 15 : law.equals("3") ? 3 : 1;
+            due("swell " + law, c.cell(0, 0, 1), want);
+            due("wish " + law, c.wish(0, 0), want);
+        }
     }
 
     private void wraps() {
