@@ -200,6 +200,9 @@ final class BayEdges extends Edges {
         fault(BAY + "boat abcdefgh" + end + "boat b" + end + "boat ^abcdefgh" + end, 3);
         good(BAY + "boat ab" + end + "boat a" + end + "boat abc" + end + "boat ba" + end + "boat abcdefgh" + end
             + "boat abcdefgi" + end);
+        fault(BAY + "boat\na" + end + "boat ^a" + end, 3);
+        fault(BAY + "boat a" + end + "boat\n\n ^a\n" + end, 3);
+        fault(BAY + "boat a\nold at 0 0 hold 0 pull 0 trust 0;boat  ^a" + end, 3);
         fault(BAY + boats(6) + "boat ^nf" + end, 3);
         good(BAY + boats(6) + "boat ng" + end);
         fault(BAY + "boat ^;", 1);

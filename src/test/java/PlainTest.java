@@ -235,7 +235,26 @@ public final class PlainTest {
         if (below(2) == 0) {
             t.append(" gales ").append(below(51)).append(" ; loose ").append(below(30)).append(" ;");
         }
-        return t.length() <= 1000 ? t.toString() : text();
+        return t.length() <= 1000 ? spaced(t.toString()) : text();
+    }
+
+    /** The same tokens with other blanks between, and none where none is needed. */
+    private String spaced(String text) {
+        if (below(3) != 0) {
+            return text;
+        }
+        StringBuilder t = new StringBuilder();
+        for (int i = 0; i < text.length(); i++) {
+            boolean needed = i > 0 && i + 1 < text.length() && Character.isLetter(text.charAt(i - 1))
+                && Character.isLetter(text.charAt(i + 1)) || i > 0 && i + 1 < text.length()
+                && Character.isDigit(text.charAt(i - 1)) && Character.isDigit(text.charAt(i + 1));
+            if (text.charAt(i) != ' ') {
+                t.append(text.charAt(i));
+            } else if (needed || below(2) == 0) {
+                t.append(below(3) == 0 ? '\n' : ' ').append(below(20) == 0 ? "\n" : "");
+            }
+        }
+        return t.toString();
     }
 
     private String e(String[] facts, int depth) {
@@ -284,6 +303,15 @@ public final class PlainTest {
         }
     }
 
+    /** One boat is called as another one. */
+    private void sameName(StringBuilder t) {
+        char one = (char) ('a' + below(7));
+        int at = t.indexOf(one + "b");
+        if (at >= 0 && t.indexOf("boat") >= 0) {
+            t.setCharAt(at, (char) ('a' + below(7)));
+        }
+    }
+
     /** The text with a token left out, put in or changed, cut off, or a sign changed. */
     private String spoiled(String text) {
         StringBuilder t = new StringBuilder(text);
@@ -297,7 +325,7 @@ public final class PlainTest {
                 end++;
             }
             String word = " " + WORDS[below(WORDS.length)];
-            switch (below(9)) {
+            switch (below(10)) {
                 case 0 -> t.delete(at, end);
                 case 1 -> t.insert(at, word);
                 case 2 -> t.setLength(at);
@@ -309,6 +337,7 @@ public final class PlainTest {
                 case 4 -> t.insert(at, " " + text.substring(text.indexOf(';') + 1));
                 case 5 -> t.replace(at, end, word);
                 case 6 -> t.insert(at, " not not (");
+                case 7 -> sameName(t);
                 default -> changeNumber(t, at);
             }
         }
