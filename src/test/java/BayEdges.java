@@ -12,6 +12,7 @@ final class BayEdges extends Edges {
     void run() {
         firstLine();
         anyNumber();
+        eachToken();
         cells();
         rocks();
         shoals();
@@ -71,6 +72,39 @@ final class BayEdges extends Edges {
         fault("bay 2 2 ; ^;", 1);
         fault("bay 2 2 ; rock 0 0 ; ^;", 1);
         fault("bay 2 2 ; rock 0 0 ^rock 1 1 ;", 1);
+    }
+
+    /** Of a text with all lines each token is left out, and told twice: the first one that can't stand there is wrong. */
+    private void eachToken() {
+        says("boat NAME KIND at N N hold N pull N trust N ; cable N strong N ; swell E ; wish E ; gales N ; loose N ;");
+        String[] tokens = ("bay 5 5 ; rock 1 2 ; shoal 0 3 fish 7 ; boat a plain at 2 1 hold 3 pull 4 trust 5 ; boat b keen at 3 4"
+            + " hold 9 pull 8 trust 7 ; cable 2 strong 6 ; swell 8 + x ; wish not ( y < 2 ) ; gales 7 ; loose 6 ;").split(" ");
+        good(String.join(" ", tokens));
+        for (int i = 0; i < tokens.length; i++) {
+            boolean pair = isNumber(tokens[i]) && i + 1 < tokens.length && isNumber(tokens[i + 1]);
+            boolean twice = tokens[i].equals("not") || tokens[i].equals("(");
+            StringBuilder without = new StringBuilder();
+            StringBuilder doubled = new StringBuilder();
+            for (int j = 0; j <= tokens.length; j++) {
+                String token = j < tokens.length ? tokens[j] + " " : "";
+                without.append(j == i + (pair ? 2 : 1) ? "^" : "").append(j == i ? "" : token);
+                doubled.append(pair && j == i + 1 ? "^" : "").append(token);
+                if (j == i) {
+                    doubled.append(pair || twice ? "" : "^").append(token);
+                }
+            }
+            if (!twice) {
+                fault(without.toString(), 1);
+                fault(doubled.toString(), 1);
+            }
+        }
+        fault("bay 2 2 ; wish not ( 1 ^;", 1);
+        fault("bay 2 2 ; wish not 1 ^) ;", 1);
+        good("bay 2 2 ; wish not not ( ( 1 ) ) ;");
+    }
+
+    private static boolean isNumber(String token) {
+        return Character.isDigit(token.charAt(0));
     }
 
     private void cells() {

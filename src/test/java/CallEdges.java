@@ -14,6 +14,7 @@ final class CallEdges extends Edges {
     @Override
     void run() {
         boats();
+        seven();
         links();
         cells();
         orders();
@@ -71,9 +72,45 @@ final class CallEdges extends Edges {
         }
     }
 
+    /** All of seven boats, told twice on one object, so that nothing of the first ones stays. */
+    private void seven() {
+        OneCable c = new OneCable();
+        String[] kinds = {"plain", "slow", "oar", "old", "keen"};
+        for (int round = 0; round < 3; round++) {
+            StringBuilder text = new StringBuilder("bay 8 8 ; swell 99 - hour ;");
+            for (int b = 0; b < 7; b++) {
+                int seed = b + round;
+                text.append(boat("n" + (char) ('a' + b), kinds[seed % 5], seed % 8, (b * 2 + round) % 8, 20 + seed, 2 * seed,
+                    (b + 3 * round) % 10));
+            }
+            due("told", Check.tell(c, text.toString()), 0);
+            for (int hour = 0; hour < 2; hour++) {
+                for (int b = 0; b < 7; b++) {
+                    int kind = (b + round) % 5;
+                    int pull = 2 * (b + round) + (kind == 2 ? 5 : 0);
+                    int hold = 20 + b + round;
+                    int[] want = {kind, (b + round) % 8, (b * 2 + round) % 8, 0, kind == 3 ? hold / 2 : hold, 99 - hour - pull};
+                    for (int what = 0; what < want.length; what++) {
+                        due("boat " + b + " what " + what + " of round " + round, c.boat(b, what), want[what]);
+                    }
+                    due("trust", c.boat(b, 7), (b + 3 * round) % 10);
+                    due("share", c.boat(b, 8), 0);
+                }
+                c.hours(1);
+            }
+            c.share(6, 99);
+        }
+    }
+
     private void links() {
         says("Of a LINK, what 0: how long, 1: how strong, 2: 1 if it is TORN, 3: STRAIN (NONE: TORN); NONE: others.");
         OneCable c = Check.told(THREE);
+        OneCable later = Check.told("bay 2 8 ;" + plain("a", 0, 0) + boat("b", "plain", 0, 1, 0, 9, 0) + " swell hour * 3 ;");
+        int[] strains = {0, 3, 6, 9, 9, 9};
+        for (int hour = 0; hour < strains.length; hour++) {
+            due("strain in hour " + hour, later.link(0, 3), strains[hour]);
+            later.hours(1);
+        }
         int[][] want = {{2, 5, 0, 3}, {4, 3, 0, 12}};
         int[][] behind = {{2, 5, 0, 6}, {4, 3, 1, -1}};
         for (int link = 0; link < 2; link++) {
@@ -193,6 +230,18 @@ final class CallEdges extends Edges {
         d.hours(1);
         due("9 apart", d.mend(0), true);
         due("no boat at all", new OneCable().mend(0), false);
+        OneCable near = Check.told("bay 8 2 ;" + plain("a", 0, 0) + plain("b", 7, 0) + boat("c", "plain", 7, 1, 0, 9, 0)
+            + " cable 3 strong 0 ; cable 3 strong 0 ;");
+        near.hours(1);
+        due("both are torn", near.count(4), 3);
+        due("the first one is too far apart", near.mend(0), false);
+        due("the second one is not", near.mend(1), true);
+        OneCable far = Check.told("bay 8 2 ;" + boat("a", "plain", 0, 0, 0, 9, 0) + plain("b", 1, 0) + plain("c", 7, 0)
+            + " cable 3 strong 0 ;");
+        far.hours(1);
+        due("both are torn", far.count(4), 3);
+        due("the second one is too far apart", far.mend(1), false);
+        due("the first one is not", far.mend(0), true);
     }
 
     private void grips() {
@@ -315,6 +364,7 @@ final class CallEdges extends Edges {
         c.mark(0, true);
         same("what was laid last", print(c), later);
         due("a mark of an object without boats", new OneCable().mark(3, false), true);
+        sevenHeld();
         OneCable links = Check.told(THREE);
         links.mark(0, false);
         links.hours(1);
@@ -327,6 +377,42 @@ final class CallEdges extends Edges {
         links.mend(1);
         links.mark(1, true);
         due("what was mended behind it is torn", links.link(1, 2), 1);
+    }
+
+    /** Seven boats in seven parts, so that each one has an order of its own. */
+    private void sevenHeld() {
+        StringBuilder text = new StringBuilder("bay 8 8 ;");
+        for (int b = 0; b < 7; b++) {
+            text.append(" shoal ").append(b).append(' ').append(b % 2 * 6).append(" fish 99 ;").append(plain("n" + (char) ('a' + b),
+                b, b % 2 * 6));
+        }
+        OneCable c = Check.told(text.toString());
+        due("parts", c.count(4), 7);
+        c.hours(2);
+        for (int b = 0; b < 7; b++) {
+            c.share(b, 10 + b);
+            c.order(b, 1);
+        }
+        String before = print(c);
+        c.mark(3, false);
+        c.hours(1);
+        String moved = print(c);
+        for (int b = 0; b < 7; b++) {
+            due("north", c.boat(b, 2), b % 2 * 6 + 1);
+            c.share(b, 20 + b);
+        }
+        for (int way = 3; way > 0; way--) {
+            for (int b = 0; b < 7; b++) {
+                c.order(b, way);
+            }
+            c.hours(1);
+        }
+        due("three more each", c.count(6), 63);
+        due("the seventh, south, east and north again", at(c, 6), 71);
+        c.mark(3, true);
+        same("all of all boats", print(c), before);
+        c.hours(1);
+        same("their orders, too", print(c), moved);
     }
 
     private void counts() {

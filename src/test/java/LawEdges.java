@@ -174,6 +174,11 @@ final class LawEdges extends Edges {
         due("x to the west", wish(c, "x", 4), 0);
         due("y to the south", wish(c, "y", 3), 0);
         due("hour", wish(c, "hour", 0), 0);
+        OneCable later = Check.told("bay 2 2 ; swell hour * 2 ; wish rough + hour ;" + plain("a", 0, 0));
+        for (int hour = 0; hour < 60; hour++) {
+            due("rough and hour in hour " + hour, later.wish(0, 0), hour % 24 * 3);
+            later.hours(1);
+        }
         wish(c, "fish * 10 + room", 0);
         c.order(0, 1);
         c.hours(1);

@@ -14,6 +14,7 @@ final class SoonEdges extends Edges {
         atOnce();
         within();
         waiting();
+        aHundred();
         tearing();
         firstRow();
         onTheWay();
@@ -119,8 +120,36 @@ final class SoonEdges extends Edges {
         never(d, 0, 3);
     }
 
+    /** Five links round about the bay sweep 28 cells: a GRIP of three digits. */
+    private void aHundred() {
+        says("SOON, within 24 HOURS, what NONE: how many; else the i-th move; NONE: others (fish 0 to 999), never.");
+        StringBuilder text = new StringBuilder("bay 8 8;");
+        for (int i = 1; i < 7; i++) {
+            text.append("shoal ").append(i).append(" 0fish 4;shoal 7 ").append(i).append("fish 4;shoal ").append(i).append(" 7fish 4;");
+        }
+        for (int i = 1; i < 6; i++) {
+            text.append("shoal 0 ").append(i + 1).append("fish 4;shoal ").append(i).append(" 1fish 4;");
+        }
+        int[] corners = {0, 0, 7, 0, 7, 7, 0, 7, 0, 1, 6, 1};
+        for (int b = 0; b < 6; b++) {
+            text.append(plain("n" + (char) ('a' + b), corners[2 * b], corners[2 * b + 1]));
+        }
+        OneCable c = Check.told(text + "cable 9strong 0;cable 9strong 0;cable 9strong 0;cable 9strong 0;cable 9strong 0;");
+        due("all of it", c.grip(0, 0, 0), 112);
+        for (int fish = 98; fish <= 114; fish++) {
+            due("so much now: " + fish, c.soon(5, fish, -1), fish <= 112 ? 0 : -1);
+        }
+        due("worth", c.worth(0, 5), 112);
+        c.hours(1);
+        due("caught", c.count(6), 112);
+    }
+
     private void tearing() {
         says("and no LINK of it may TEAR in it:");
+        OneCable behind = Check.told("bay 8 2 ; shoal 6 0 fish 9 ;" + plain("a", 0, 0) + plain("b", 5, 0) + plain("c", 5, 1)
+            + " cable 1 strong 0 ; cable 1 strong 0 ;");
+        due("a part behind a torn link", behind.soon(1, 3, -1), 1);
+        due("goes east", behind.soon(2, 3, 0), 2);
         for (int strong = 0; strong <= 6; strong++) {
             OneCable c = Check.told("bay 3 2 ; shoal 2 0 fish 3 ;" + boat("a", "plain", 0, 0, 99, 0, 0)
                 + boat("b", "plain", 0, 1, 0, 99, 0) + " cable 1 strong " + strong + " ; swell ( x = 1 ) * 9 ;");

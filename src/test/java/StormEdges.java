@@ -143,6 +143,10 @@ final class StormEdges extends Edges {
         hour.hours(1);
         due("in hour 1", hour.join(1, 0, 0), 2);
         due("in hour 1, farther east", hour.join(2, 0, 0), 4);
+        OneCable later = Check.told("bay 2 2 ;" + boat("a", "plain", 0, 0, 0, 4, 0) + boat("b", "plain", 0, 0, 0, 10, 0)
+            + " swell hour * 2 ;");
+        later.hours(5);
+        due("6, 0 and 10 in hour 5: 32 - 18 of 3", later.join(1, 1, 0), 5);
         OneCable north = Check.told("bay 3 8 ;" + plain("a", 0, 1) + plain("b", 1, 1) + " swell x + y * 10 ;");
         due("10, 11 and 51: 102 - 21 of 3", north.join(1, 5, 0), 27);
         OneCable last = Check.told("bay 8 3 ;" + plain("a", 0, 0) + plain("b", 7, 0) + plain("c", 7, 1) + " swell x + y * 10 ;");
@@ -171,6 +175,15 @@ final class StormEdges extends Edges {
             + boat("c", "plain", 7, 0, 0, 99, 0) + " cable 1 strong 0 ; cable 1 strong 0 ; swell 9 ;");
         due("a link of another part would", torn.join(7, 0, 99), 0);
         due("its part is one boat and the new one", torn.join(7, 0, 0), 5);
+        for (int strong = 3; strong <= 6; strong++) {
+            for (int second = 8; second <= 11; second++) {
+                OneCable far = Check.told("bay 8 2 ; swell 30 ;" + boat("a", "plain", 0, 0, 0, 30, 0)
+                    + boat("b", "plain", 7, 0, 0, 30, 0) + boat("c", "plain", 7, 0, 0, 30, 0) + boat("d", "plain", 7, 0, 0, 30, 0)
+                    + " cable 3 strong 20 ; cable 3 strong " + strong + " ; cable 3 strong " + second + " ;");
+                due("20 and 40 on the links of the part behind the torn one, of 4 times " + strong + " and " + second,
+                    far.join(7, 1, 10), strong < 5 || second < 10 ? -1 : 15);
+            }
+        }
         OneCable even = row("9", 0, 0, 0);
         due("all alike", even.join(5, 0, 0), 0);
         due("a pull more", even.join(5, 0, 1), -1);
